@@ -691,38 +691,19 @@ public final class LongestWed {
             return isTogether(couple) ? worse(couple, keeper, secondTo(keeper)) : 0;
         }
 
+        // The kinds below plain go by the ones above them, so those are worked out first.
         int worse(int couple, int keeper, int second) {
             boolean keeps = couple == keeper;
-            boolean isSecond = couple == second;
+            int plain = keeps ? 1 : -1;
+            int proud = keeps ? plain + 2 : plain;
+            int soup = couple == second ? plain - 2 : plain;
             switch (kind[couple]) {
-                case PROUD: return proudWorse(keeps);
-                case SOUP: return soupWorse(keeps, isSecond);
-                case SILENT: return silentWorse(keeps, year);
-                case BRICK: return brickWorse(keeps, isSecond, temper[couple]);
-                case PLAIN:
-                default: return plainWorse(keeps);
+                case PROUD: return proud;
+                case SOUP: return soup;
+                case SILENT: return year % 2 == 0 ? proud : 0;
+                case BRICK: return temper[couple] >= HOT_TEMPER ? soup + 3 : soup;
+                default: return plain;
             }
-        }
-
-        static int plainWorse(boolean keeps) {
-            return keeps ? 1 : -1;
-        }
-
-        static int proudWorse(boolean keeps) {
-            return keeps ? plainWorse(keeps) + 2 : plainWorse(keeps);
-        }
-
-        static int soupWorse(boolean keeps, boolean isSecond) {
-            return isSecond ? plainWorse(keeps) - 2 : plainWorse(keeps);
-        }
-
-        static int silentWorse(boolean keeps, int year) {
-            return year % 2 == 0 ? proudWorse(keeps) : 0;
-        }
-
-        static int brickWorse(boolean keeps, boolean isSecond, int temper) {
-            int asSoup = soupWorse(keeps, isSecond);
-            return temper >= HOT_TEMPER ? asSoup + 3 : asSoup;
         }
 
         void passYears(int n) {

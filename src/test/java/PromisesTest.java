@@ -8,6 +8,7 @@ public final class PromisesTest {
         constants();
         promise1New();
         promise2Couple();
+        promise2CoupleForgets();
         promise3Of();
         promise3OfByKind();
         promise4Type();
@@ -88,6 +89,9 @@ public final class PromisesTest {
         T.due("2: full", x.couple(0, 0), -3);
         T.bad("2: bad ahead of full", x.couple(5, 0));
         T.due("2: seven", x.count(0), 7);
+        x.years(2);
+        T.due("2: still full", x.couple(0, 0), -3);
+        T.due("2: full leaves what may be undone", x.count(6), 2);
     }
 
     private static void promise2CoupleForgets() {
@@ -101,7 +105,6 @@ public final class PromisesTest {
     }
 
     private static void promise3Of() {
-        promise2CoupleForgets();
         LongestWed x = T.town("s33@71~8,l7x");
         int[] first = {2, 33, 71, 8, 0, 11};
         int[] next = {3, 7, 40, 0, 1, 10};
@@ -114,15 +117,14 @@ public final class PromisesTest {
 
     /** By how much temper is worse, and 10: keeper, second, another. */
     private static void promise3OfByKind() {
-        String[] keeper = {"p9", "d9", "s9", "l9", "b9", "b9~9", "b9~10"};
+        String[] texts = {"p9", "d9", "s9", "l9", "b9", "b9~9", "b9~10"};
         int[] keeperWorse = {11, 13, 11, 13, 11, 11, 14};
-        String[] second = {"p9", "d9", "s9", "l9", "b9", "b9~9", "b9~10"};
         int[] secondWorse = {9, 9, 7, 9, 7, 7, 10};
         int[] otherWorse = {9, 9, 9, 9, 9, 9, 12};
-        for (int k = 0; k < keeper.length; k++) {
-            T.due("3: keeper " + keeper[k], T.town(keeper[k]).of(0, 5), keeperWorse[k]);
-            T.due("3: second " + second[k], T.town("p10," + second[k]).of(1, 5), secondWorse[k]);
-            T.due("3: other " + second[k], T.town("p10,p10," + second[k]).of(2, 5), otherWorse[k]);
+        for (int k = 0; k < texts.length; k++) {
+            T.due("3: keeper " + texts[k], T.town(texts[k]).of(0, 5), keeperWorse[k]);
+            T.due("3: second " + texts[k], T.town("p10," + texts[k]).of(1, 5), secondWorse[k]);
+            T.due("3: other " + texts[k], T.town("p10,p10," + texts[k]).of(2, 5), otherWorse[k]);
         }
         LongestWed odd = T.town("l9,l8");
         odd.years(1);
@@ -155,6 +157,7 @@ public final class PromisesTest {
                 T.due("5: of(" + c + ", " + what + ")", x.of(c, what), want[c][what]);
             }
         }
+        x.keys(9);
         x.seed(77);
         x.years(4);
         x.image();
@@ -243,6 +246,9 @@ public final class PromisesTest {
         T.due("11: full", x.drift(2), -3);
         T.due("7: full changes nothing", x.count(1), 9998);
         T.due("11: full draws nothing", x.seed(1), 1);
+        x.image();
+        T.due("11: the last year", x.drift(1), -4);
+        x.restore();
         T.due("7: the last year", x.years(1), -4);
         T.due("7: 9999", x.count(1), 9999);
         T.due("7: full at the end", x.years(1), -3);
@@ -338,6 +344,10 @@ public final class PromisesTest {
         T.due("11: so the other had the keys in it", x.of(1, 3), 1);
         T.due("11: temper 19", x.of(0, 3), 19);
         T.due("11: not wed longer", x.of(0, 1), 9);
+        LongestWed one = T.town("p9");
+        T.due("11: the only couple", one.drift(1), 0);
+        T.due("11: stirred by 4, then 1 worse", one.of(0, 3), 5);
+        driftWhom();
         LongestWed none = new LongestWed();
         T.due("11: without couples", none.drift(3), -4);
         T.due("11: the draw goes on", none.seed(5), 662824084);
@@ -345,6 +355,29 @@ public final class PromisesTest {
         none.seed(HIGH);
         none.drift(1);
         T.due("11: 31 bits", none.seed(0), (HIGH * 1103515245L + 12345) & 0x7fffffffL);
+    }
+
+    /** Draws whose number by 65536 is just that, or just below the next: who is stirred tells which it was. */
+    private static void driftWhom() {
+        long[] draws = {65536L * 20000, 65536L * 20001 - 1, 65536L * 30001, 65536L * 30002 - 1};
+        for (long draw : draws) {
+            LongestWed x = T.town("p9~5,p9~5,p9~5,p9~5,p9~5,p9~5,p9~5");
+            x.seed(seedFor(draw));
+            x.drift(1);
+            int whom = (int) (draw / 65536 % 7);
+            int by = (int) (draw / 128 % 7);
+            for (int c = 0; c < 7; c++) {
+                T.due("11: couple " + c + " by the draw " + draw, x.of(c, 3), (c == 0 ? 6 : 4) + (c == whom ? by : 0));
+            }
+            T.due("11: the draw is", x.seed(0), draw);
+        }
+    }
+
+    /** What THE DRAW must be for that draw to come next. */
+    private static int seedFor(long draw) {
+        java.math.BigInteger all = java.math.BigInteger.TWO.pow(31);
+        java.math.BigInteger back = java.math.BigInteger.valueOf(1103515245).modInverse(all);
+        return java.math.BigInteger.valueOf(draw - 12345).multiply(back).mod(all).intValueExact();
     }
 
     private static void promise12Undo() {
@@ -457,6 +490,7 @@ public final class PromisesTest {
         T.due("18: not within 60", T.town("p9,p8,p7,p6@39").parts(3), -4);
         T.due("18: by the 60th", T.town("p9,p8,p7,p6@40").parts(3), 60);
         T.due("18: by the 60th, by temper", T.town("p9,p8,p7").parts(2), 60);
+        T.due("18: from now again", x.parts(0), 1);
         T.due("18: nothing is changed", x.count(1), 0);
     }
 
@@ -465,8 +499,10 @@ public final class PromisesTest {
         T.due("19: all but parted and old ones", T.town("p9~18,d5,p3,p20x,s1@95").ever(), 7);
         T.due("19: behind 60 too", T.town("p9,p8,p7,p6@20").ever(), 15);
         T.due("19: not behind 61", T.town("p9,p8,p7,p6@20,p5@20").ever(), 15);
-        LongestWed late = T.town("p9,p8,p7~1,p6@20");
-        T.due("19: as it is now", late.count(2), 0);
+        LongestWed again = T.town("p9,p8,p7@60");
+        again.keys(60);
+        T.due("19: from now", again.ever(), 3);
+        T.due("19: from now again", again.ever(), 3);
     }
 
     private static void promise20Rivals() {
@@ -489,7 +525,10 @@ public final class PromisesTest {
         LongestWed two = T.town("p9,p8,p7");
         T.due("20: one of two", two.rivals(2, 20, 0), 1);
         T.due("20: the least", two.rivals(2, 20, 1), 1);
-        // Parted the first at once, the second would be gone behind 20 years: fewer beat the least.
+        // Without 0 and 1 (set 3) the third is gone behind 20 years; but 2 alone (set 4) is fewer.
+        LongestWed fewer = T.town("d9,d8,p7,p6");
+        T.due("20: fewer beat the least", fewer.rivals(3, 20, 0), 1);
+        T.due("20: which is fewer", fewer.rivals(3, 20, 1), 4);
         LongestWed few = T.town("p5,p6,p8,p7");
         T.due("20: one behind 20", few.rivals(1, 20, 0), 1);
         T.due("20: the least of one", few.rivals(1, 20, 1), 4);
@@ -524,6 +563,9 @@ public final class PromisesTest {
         T.due("22: the second", later.soothe(2, 0), 1);
         T.due("22: three", later.soothe(2, 1), 3);
         T.due("22: without it two", later.then(2), 5);
+        LongestWed five = T.town("p9~19,p5@90");
+        T.due("22: by 5 for 5 years", five.soothe(5, 1), 2);
+        T.due("22: by 5 not for 6", five.soothe(6, 1), 1);
         T.due("22: nobody is left", T.town("p5,p4@99").soothe(40, 1), 0);
         T.due("22: the first all the same", T.town("p5x,p4@99").soothe(40, 0), 1);
         T.due("22: nobody together", T.town("p5x").soothe(1, 0), -4);
@@ -542,6 +584,8 @@ public final class PromisesTest {
         T.due("23: behind 19", T.town("p9x,p8x").start(19), 0);
         T.due("23: behind 20", T.town("p9x,p8x").start(20), -4);
         T.due("23: of a kind that lasts", T.town("d9x,p8x").start(19), 1);
+        T.due("23: each apart", T.town("d9x,d8x,p8x").start(10), 2);
+        T.due("23: each from now", T.town("p40,d9x,l8x").start(30), 2);
         T.due("23: none is parted", T.town("p9").start(0), -4);
         T.due("23: no couples", new LongestWed().start(60), -4);
         T.due("23: behind 60", T.town("p9,p8,p7x").start(59), 2);
@@ -663,6 +707,10 @@ public final class PromisesTest {
         T.due("28: parted, kinds", still.heard(2, 1, 3, 1, 3, 0), 31);
         T.due("28: parted, tempers", still.heard(2, 1, 3, 1, 3, 1), 1 << 7);
         T.due("28: parted, wed", still.heard(2, 1, 3, 1, 3, 2), 81);
+        LongestWed edge = withRow("p79~4,p5~4", 5);
+        T.due("28: wed since 80 alone", edge.heard(1, 1, 3, 1, 1, 2), 1);
+        T.due("28: the least is 80", edge.heard(1, 1, 3, 1, 1, 3), 80);
+        T.due("28: the most of the first is 80", edge.heard(0, 1, 3, 1, 1, 2), 76);
         LongestWed low = withRow("p9,p5", 0);
         T.due("28: 0 or 1", low.heard(1, 1, 3, 1, 1, 1), 3);
         T.due("28: with 18 or 19 apart", withRow("d5~1", 19).heard(0, 1, 3, 1, 1, 1), (1 << 16) | (1 << 17) | (1 << 18) | (1 << 19));
@@ -685,6 +733,12 @@ public final class PromisesTest {
             T.due("29: 24", x.film(1, 24, lane, lane, 0), 24);
             T.due("29: as heard of the second", x.heard(1, lane, lane, 0, 8, 1), 1 << 4);
         }
+        x.sheet(0, 0, 24);
+        x.film(0, 3, 0, 0, 1);
+        T.due("29: 0 stays ahead of it", x.heard(0, 0, 0, 0, 1, 1), 0);
+        T.due("29: the third", x.heard(0, 0, 0, 3, 1, 1), 1 << 6);
+        T.due("29: 0 stays behind it", x.heard(0, 0, 0, 4, 1, 1), 0);
+        x.film(1, 24, 0, 0, 0);
         T.due("29: index", x.film(0, 24, 0, 0, 1), -13);
         T.due("29: index below", x.film(0, 1, 0, 0, -1), -13);
         T.due("29: index far above", x.film(0, 24, 0, 0, HIGH), -13);
@@ -707,9 +761,13 @@ public final class PromisesTest {
         T.due("30: no item", x.item(0, 3, 0, 1), -13);
         T.due("30: 24 items", x.sheet(3, 1, 24), 24);
         x.item(3, 1, 5, 1);
+        x.item(3, 1, 0, 1);
+        x.item(3, 1, 23, 1);
         T.due("30: that one is heard", x.heard(0, 3, 1, 5, 1, 1), 1);
         T.due("30: a new row", x.sheet(3, 1, 24), 24);
         T.due("30: of zeros", x.heard(0, 3, 1, 5, 1, 1), 0);
+        T.due("30: of zeros from the first", x.heard(0, 3, 1, 0, 1, 1), 0);
+        T.due("30: of zeros to the last", x.heard(0, 3, 1, 23, 1, 1), 0);
         x.sheet(3, 1, -1);
         T.due("30: refused leaves the row", x.drop(3), 24);
     }
