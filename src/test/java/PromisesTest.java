@@ -362,7 +362,7 @@ public final class PromisesTest {
         long[] draws = {65536L * 20000, 65536L * 20001 - 1, 65536L * 30001, 65536L * 30002 - 1};
         for (long draw : draws) {
             LongestWed x = T.town("p9~5,p9~5,p9~5,p9~5,p9~5,p9~5,p9~5");
-            x.seed(seedFor(draw));
+            x.seed(Due.seedFor(draw));
             x.drift(1);
             int whom = (int) (draw / 65536 % 7);
             int by = (int) (draw / 128 % 7);
@@ -371,13 +371,6 @@ public final class PromisesTest {
             }
             T.due("11: the draw is", x.seed(0), draw);
         }
-    }
-
-    /** What THE DRAW must be for that draw to come next. */
-    private static int seedFor(long draw) {
-        java.math.BigInteger all = java.math.BigInteger.TWO.pow(31);
-        java.math.BigInteger back = java.math.BigInteger.valueOf(1103515245).modInverse(all);
-        return java.math.BigInteger.valueOf(draw - 12345).multiply(back).mod(all).intValueExact();
     }
 
     private static void promise12Undo() {
