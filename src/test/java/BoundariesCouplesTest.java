@@ -58,7 +58,7 @@ public final class BoundariesCouplesTest {
     }
 
     private static void coupleIsBad() {
-        T.says("BAD; FULL: 7");
+        T.says("A COUPLE, OLD by 40, in a TEMPER 0: its number. BAD");
         T.range("kind", 0, 4, kind -> new LongestWed().couple(kind, 9));
         T.range("wed", 0, 80, wed -> new LongestWed().couple(0, wed));
         LongestWed x = new LongestWed();
@@ -73,7 +73,7 @@ public final class BoundariesCouplesTest {
     }
 
     private static void coupleIsFull() {
-        T.says("BAD; FULL: 7");
+        T.says("A COUPLE, OLD by 40, in a TEMPER 0: its number. BAD; FULL: 7");
         LongestWed x = T.town("p1,p2,p3,p4,p5,p6");
         T.due("the seventh", x.couple(0, 7), 6);
         T.due("the eighth", x.couple(0, 8), FULL);
@@ -84,6 +84,13 @@ public final class BoundariesCouplesTest {
     }
 
     private static void ofIsBad() {
+        T.says("OLD by 20 .. 99, in a TEMPER 0 .. 19");
+        for (int old = 20; old <= 99; old++) {
+            T.due("old by " + old, T.town("p9@" + old).of(0, OLD), old);
+        }
+        for (int temper = 0; temper <= 19; temper++) {
+            T.due("in a temper " + temper, T.town("p9~" + temper).of(0, TEMPER), temper);
+        }
         T.says("Of a COUPLE: 0 KIND, 1 since how many YEARS it is WED, 2 how OLD, 3 TEMPER, 4 whether it is PARTED (1, 0)");
         LongestWed x = T.town("b80@99~19,d0@20~0x");
         of("the first", x, 0, 4, 80, 99, 19, 0);

@@ -196,7 +196,7 @@ public final class BoundariesDeedsTest {
     }
 
     private static void driftIsFull() {
-        T.says("BAD; FULL: likewise");
+        T.says("who has THE KEYS then (NONE). BAD; FULL: likewise");
         LongestWed x = T.lateTown("p9");
         T.due("40 more", x.drift(40), FULL);
         T.due("no draw", x.seed(1), 1);
@@ -266,7 +266,7 @@ public final class BoundariesDeedsTest {
     }
 
     private static void driftWhomAndByHowMuch() {
-        T.says("the one that it is by 65536, left over by how many there are, is TOGETHER, it is STIRRED");
+        T.says("the one that it is by 65536, left over by how many there are, is TOGETHER, it is STIRRED by it by 128, left over by 7");
         for (int couples = 1; couples <= 7; couples++) {
             String text = "p9~5" + ",p9~5".repeat(couples - 1);
             for (int whom = 0; whom < couples; whom++) {
@@ -364,7 +364,7 @@ public final class BoundariesDeedsTest {
     }
 
     private static void eightAreKnown() {
-        T.says("(8 are known, older ones lost)");
+        T.says("the latest YEAR, NURSED, STIRRED, WED anew is as it had not been (8 are known, older ones lost)");
         for (int deeds = 7; deeds <= 20; deeds++) {
             LongestWed x = T.town("p9");
             for (int k = 0; k < deeds; k++) {
@@ -381,7 +381,7 @@ public final class BoundariesDeedsTest {
     }
 
     private static void undoOfEachDeed() {
-        T.says("the latest YEAR, NURSED, STIRRED, WED anew is as it had not been");
+        T.says("TEMPERS, since when all are WED, how OLD, who is PARTED, the YEAR, THE DRAW are as ahead of it");
         LongestWed x = T.town("p9@98~18,d80@99~3,b7@99~19x");
         String[] before = new String[6];
         for (int deed = 0; deed < 6; deed++) {

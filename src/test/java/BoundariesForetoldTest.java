@@ -35,13 +35,14 @@ public final class BoundariesForetoldTest {
 
     private static void keysAtItsEnds() {
         T.says("behind n YEARS (0 .. 60) who has THE KEYS (none)");
+        T.says("Who has THE KEYS behind n YEARS (NONE). BAD");
         T.range("keys", 0, 60, n -> T.town(SIXTY).keys(n));
+        T.says("behind n YEARS (0 .. 60) who has THE KEYS (none)");
         LongestWed x = T.town(SIXTY);
         int[][] want = {{0, 0}, {19, 0}, {20, 1}, {39, 1}, {40, 2}, {59, 2}, {60, 3}};
         for (int[] one : want) {
             T.due("keys(" + one[0] + ")", x.keys(one[0]), one[1]);
         }
-        T.says("Who has THE KEYS behind n YEARS (NONE)");
         T.due("no couples", new LongestWed().keys(0), NONE);
         T.due("all parted", T.town("p9x").keys(0), NONE);
         T.due("parted in the next year", T.town("p9~19").keys(1), NONE);
@@ -91,10 +92,11 @@ public final class BoundariesForetoldTest {
     }
 
     private static void risesAtItsEnds() {
-        T.says("RISES of a COUPLE: the first of 0 to 60 YEARS behind which it has THE KEYS; none");
+        T.says("RISES (what 0; NONE), REIGN (1). BAD");
         T.range("couple", 0, 1, couple -> T.town("p9,p8").rises(couple, 0));
         T.range("what", 0, 1, what -> T.town("p9").rises(0, what));
         T.bad("no couples", new LongestWed().rises(0, 0), new LongestWed().rises(0, 1));
+        T.says("RISES of a COUPLE: the first of 0 to 60 YEARS behind which it has THE KEYS; none");
         LongestWed sixty = T.town(SIXTY);
         int[] first = {0, 20, 40, 60};
         for (int c = 0; c < first.length; c++) {
@@ -124,9 +126,10 @@ public final class BoundariesForetoldTest {
     }
 
     private static void partsAtItsEnds() {
-        T.says("PARTS: in which of the next 60 YEARS (1 on) it is PARTED; none (if it is now, too)");
+        T.says("PARTS; NONE. BAD");
         T.range("couple", 0, 1, couple -> T.town("p9,p8").parts(couple));
         T.bad("no couples", new LongestWed().parts(0));
+        T.says("PARTS: in which of the next 60 YEARS (1 on) it is PARTED; none (if it is now, too)");
         T.due("in the first", T.town("p9~19").parts(0), 1);
         T.due("in the first, of old age", T.town("p9@99").parts(0), 1);
         T.due("in the 60th", T.town(SIXTY).parts(2), 60);
@@ -157,6 +160,7 @@ public final class BoundariesForetoldTest {
         T.says("RIVALS of a COUPLE, n YEARS (0 .. 40)");
         T.range("n", 0, 40, n -> T.town("p9,p8").rivals(1, n, 0));
         T.range("couple", 0, 1, couple -> T.town("p9,p8").rivals(couple, 0, 0));
+        T.says("RIVALS: how many (what 0), which (1); NONE. BAD");
         T.range("what", 0, 1, what -> T.town("p9").rivals(0, 0, what));
         T.bad("no couples", new LongestWed().rivals(0, 0, 0));
         T.says("the fewest others that, PARTED now, let it have THE KEYS behind them");
@@ -180,7 +184,7 @@ public final class BoundariesForetoldTest {
     }
 
     private static void rivalsNone() {
-        T.says("RIVALS: how many (what 0), which (1); NONE");
+        T.says("of like ones the least set: how many; which; none");
         rivals("p9x,p8", 0, 0, NONE, NONE);
         rivals("p9x", 0, 40, NONE, NONE);
         rivals("p9", 0, 19, 0, 0);
@@ -224,7 +228,8 @@ public final class BoundariesForetoldTest {
         T.says("SOOTHE for n YEARS (1 .. 40)");
         T.range("n", 1, 40, n -> T.town("p9").soothe(n, 0));
         T.range("what", 0, 1, what -> T.town("p9").soothe(1, what));
-        T.says("NURSED by 5 now, lets most be TOGETHER behind them");
+        T.says("the COUPLE, TOGETHER, that, NURSED by 5 now, lets most be TOGETHER behind them");
+        soothe("p9~19x,p8,p7", 1, 1, 2);
         soothe("p5,p9~19", 1, 1, 2);
         soothe("p5,p9~19", 5, 1, 2);
         soothe("p5,p9~19", 6, 0, 1);
@@ -245,7 +250,7 @@ public final class BoundariesForetoldTest {
     }
 
     private static void sootheNone() {
-        T.says("SOOTHE: which (what 0), how many (1); NONE");
+        T.says("SOOTHE: which (what 0), how many (1); NONE. BAD");
         soothe("p9x", 1, NONE, NONE);
         soothe("p9x,p8x", 40, NONE, NONE);
         T.due("no couples, which", new LongestWed().soothe(1, 0), NONE);
@@ -254,8 +259,9 @@ public final class BoundariesForetoldTest {
     }
 
     private static void startAtItsEnds() {
-        T.says("START for n YEARS (0 .. 60): of those PARTED the one that, WED anew now, has THE KEYS behind n YEARS");
+        T.says("START; NONE. BAD");
         T.range("start", 0, 60, n -> T.town("p9x").start(n));
+        T.says("START for n YEARS (0 .. 60): of those PARTED the one that, WED anew now, has THE KEYS behind n YEARS");
         T.due("behind 0, nobody else", T.town("p9x").start(0), 0);
         T.due("behind 0, of like ones the first", T.town("p9x,p0").start(0), 0);
         T.due("behind 0, of like ones not the first", T.town("p0,p9x").start(0), NONE);
@@ -277,8 +283,9 @@ public final class BoundariesForetoldTest {
     }
 
     private static void sumAtItsEnds() {
-        T.says("SUM for n YEARS (1 .. 40): by how much TEMPERS of who has THE KEYS, ahead of each of them, come to together");
+        T.says("SUM. BAD");
         T.range("sum", 1, 40, n -> T.town("p9").sum(n));
+        T.says("SUM for n YEARS (1 .. 40): by how much TEMPERS of who has THE KEYS, ahead of each of them, come to together");
         T.due("of 1", T.town("p9~7,p8~9").sum(1), 7);
         T.due("of 2", T.town("p9~7,p8~9").sum(2), 15);
         T.due("of 20", T.town("p9@20,p8@20").sum(20), 190);
@@ -298,7 +305,7 @@ public final class BoundariesForetoldTest {
     }
 
     private static void rowsAreBad() {
-        T.says("BAD: no such one, below -1, too");
+        T.says("ROWS: a COUPLE has THE KEYS, nobody (couple -1): above (what 0), below (1). BAD: no such one, below -1, too");
         T.range("couple", -1, 1, couple -> T.town("p9,p8").rows(couple, 5, 0));
         T.range("c", 0, 10, c -> T.town("p9").rows(0, c, 0));
         T.range("what", 0, 1, what -> T.town("p9").rows(0, 5, what));
@@ -321,7 +328,7 @@ public final class BoundariesForetoldTest {
         rows("p9~10x,p8~10", 0, 0, 0, 1);
         rows("p9~10x,p8~10", 1, 3, 7, 10);
         rows("p9~10,p9~10", 1, 1, 9, 100);
-        T.says("how likely nobody does");
+        T.says("how likely a COUPLE has THE KEYS then; how likely nobody does");
         rows("p9~10", -1, 0, 0, 1);
         rows("p9~10", -1, 1, 1, 10);
         rows("p9~10", -1, 10, 1, 1);

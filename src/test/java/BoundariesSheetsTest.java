@@ -65,6 +65,7 @@ public final class BoundariesSheetsTest {
         T.range("sheet", 0, 3, sheet -> x.heard(0, sheet, LONGS, 0, 1, KINDS));
         T.range("lane", 0, 3, lane -> x.heard(0, 0, lane, 0, 1, KINDS));
         T.range("n", 1, 8, n -> x.heard(0, 0, LONGS, 0, n, KINDS));
+        T.says("KINDS (what 0), TEMPERS (1), how many YEARS it might be WED (2), the least (3; NONE). BAD");
         T.range("what", 0, 3, what -> x.heard(0, 0, LONGS, 0, 1, what));
         T.bad("no couples", new LongestWed().heard(0, 0, 0, 0, 1, 0));
         T.says("BAD; NULL; CAST; INDEX");

@@ -16,6 +16,7 @@ public final class BoundariesTermsTest {
         refusedOfCouplesAndDeeds();
         refusedOfWhatIsForetold();
         refusedOfSheets();
+        machineFindsInOrder();
         refusedWhenFull();
         refusedButAsTold();
         whatAnswersAlone();
@@ -30,6 +31,12 @@ public final class BoundariesTermsTest {
         T.bad("no couple 0", x.of(0, 0), x.nurse(0, 1), x.stir(0, 1), x.wed(0), x.ahead(0, 0), x.rises(0, 0), x.parts(0),
             x.rivals(0, 0, 0), x.needs(0, 1), x.rows(0, 0, 0), x.heard(0, 0, 0, 0, 1, 0), x.film(0, 1, 0, 0, 0));
         T.same("a new one", Seen.town(x), "counts 0 0 -4 -4 0 0 0 draw 1");
+        T.says("It is YEAR 0 at first");
+        T.due("count(1)", x.count(1), 0);
+        T.due("count(1) of a town told", T.town("p9").count(1), 0);
+        T.says("THE DRAW is a number of 31 bits (1 at first)");
+        T.due("seed", x.seed(HIGH), 1);
+        T.due("seed back", x.seed(1), HIGH);
         T.says("nothing (at first), or a row of a LANE");
         for (int sheet = 0; sheet < 4; sheet++) {
             T.due("drop(" + sheet + ")", x.drop(sheet), NULL);
@@ -169,8 +176,28 @@ public final class BoundariesTermsTest {
         refused("copy of below 0 items", INDEX, x -> x.copy(0, 1, 0, 0, -1));
     }
 
+    private static void machineFindsInOrder() {
+        T.says("what the machine finds: NULL -11, INDEX -13, SIZE -14 (NULL, CAST, INDEX, SIZE in this order)");
+        LongestWed x = ordinary();
+        for (int i : new int[] {LOW, -1, 0, 3, HIGH}) {
+            boolean outside = i != 0;
+            T.due("item " + i + " of nothing", x.item(2, 3, i, 1), NULL);
+            T.due("item " + i + " of bytes as longs", x.item(0, 3, i, 1), CAST);
+            T.due("heard from " + i + " of nothing", x.heard(0, 2, 3, i, 1, 0), NULL);
+            T.due("heard from " + i + " of bytes as longs", x.heard(0, 0, 3, i, 1, 0), CAST);
+            T.due("film from " + i + " to nothing", x.film(0, 1, 2, 3, i), NULL);
+            T.due("film from " + i + " to bytes as longs", x.film(0, 1, 0, 3, i), CAST);
+            T.due("copy from " + i + " of nothing to longs", x.copy(2, i, 1, i, 1), NULL);
+            T.due("copy from " + i + " of longs to nothing", x.copy(1, i, 2, i, 1), NULL);
+            T.due("copy from " + i + " of longs to bytes", x.copy(1, i, 0, i, 1), CAST);
+            T.due("item " + i, x.item(0, 0, i, 1), outside ? INDEX : 1);
+            T.due("copy from " + i, x.copy(0, i, 0, i, 1), outside ? INDEX : 1);
+        }
+        T.due("sheet of below 0", x.sheet(2, 0, -1), SIZE);
+    }
+
     private static LongestWed fullOfCouples() {
-        LongestWed x = T.town("p9,p8,p7,p6,p5,p4,p3");
+        LongestWed x = T.town("p9,p8x,p7,p6,p5,p4,p3");
         x.years(1);
         return x;
     }
@@ -218,19 +245,23 @@ public final class BoundariesTermsTest {
     /** What is only asked changes nothing either. */
     private static void whatAnswersAlone() {
         T.says("FORETOLD from now (nothing is changed)");
-        Call[] asking = {x -> x.keys(60), x -> x.ahead(0, 60), x -> x.then(60), x -> x.rises(0, 0), x -> x.rises(0, 1),
-            x -> x.parts(0), x -> x.ever(), x -> x.rivals(0, 3, 1), x -> x.needs(0, 3), x -> x.soothe(40, 1),
-            x -> x.start(60), x -> x.sum(40), x -> x.rows(0, 5, 0), x -> x.heard(0, 0, 0, 0, 3, 0),
+        Call[] asking = {x -> x.keys(1), x -> x.ahead(0, 1), x -> x.then(1), x -> x.rises(0, 0), x -> x.rises(0, 1),
+            x -> x.parts(0), x -> x.ever(), x -> x.rivals(0, 1, 1), x -> x.needs(0, 3), x -> x.soothe(1, 1),
+            x -> x.start(15), x -> x.sum(40), x -> x.rows(0, 5, 0), x -> x.heard(0, 0, 0, 0, 3, 0),
             x -> x.heard(0, 0, 0, 0, 3, 1), x -> x.heard(0, 0, 0, 0, 3, 2), x -> x.heard(0, 0, 0, 0, 3, 3),
             x -> x.of(0, 5), x -> x.count(3)};
         for (int k = 0; k < asking.length; k++) {
             LongestWed x = ordinary();
-            asking[k].on(x);
+            int first = asking[k].on(x);
+            x.keys(60);
+            T.due("asking " + k + " again, behind what else was foretold", asking[k].on(x), first);
             T.same("asking " + k, Seen.all(x), Seen.all(ordinary()));
         }
         T.says("TEMPER of a COUPLE behind 1, 2, .. n YEARS (1 .. 24), an item each, comes to a SHEET likewise");
         LongestWed filmed = ordinary();
+        filmed.keys(60);
         filmed.film(0, 3, 0, 0, 0);
+        T.due("film from now", filmed.heard(0, 0, 0, 0, 3, 1), 1 << 12);
         T.same("film but for its sheet", Seen.town(filmed), Seen.town(ordinary()));
     }
 
