@@ -32,12 +32,6 @@ public final class BoundariesCouplesTest {
         T.end();
     }
 
-    private static void of(String call, LongestWed x, int couple, int... want) {
-        for (int what = 0; what < want.length; what++) {
-            T.due(call + ": of(" + couple + ", " + what + ")", x.of(couple, what), want[what]);
-        }
-    }
-
     private static void couplesAsTheyCome() {
         T.says("COUPLES 0 .. 6, as they come");
         LongestWed x = new LongestWed();
@@ -45,7 +39,7 @@ public final class BoundariesCouplesTest {
             T.due("couple", x.couple(c % 5, c * 10), c);
         }
         for (int c = 0; c <= 6; c++) {
-            of("couple " + c, x, c, c % 5, c * 10);
+            T.of("couple " + c, x, c, c % 5, c * 10);
         }
         T.says("they are TOGETHER (at first) or PARTED");
         T.due("together", x.count(TOGETHER), 127);
@@ -53,7 +47,7 @@ public final class BoundariesCouplesTest {
         LongestWed later = T.town("p9");
         later.years(5);
         T.due("a couple in year 5", later.couple(4, 80), 1);
-        of("a couple in year 5", later, 1, 4, 80, 40, 0, 0);
+        T.of("a couple in year 5", later, 1, 4, 80, 40, 0, 0);
         T.due("its year", later.count(1), 5);
     }
 
@@ -93,8 +87,8 @@ public final class BoundariesCouplesTest {
         }
         T.says("Of a COUPLE: 0 KIND, 1 since how many YEARS it is WED, 2 how OLD, 3 TEMPER, 4 whether it is PARTED (1, 0)");
         LongestWed x = T.town("b80@99~19,d0@20~0x");
-        of("the first", x, 0, 4, 80, 99, 19, 0);
-        of("the last", x, 1, 1, 0, 20, 0, 1);
+        T.of("the first", x, 0, 4, 80, 99, 19, 0);
+        T.of("the last", x, 1, 1, 0, 20, 0, 1);
         T.range("couple", 0, 1, couple -> x.of(couple, KIND));
         T.range("what", 0, 5, what -> x.of(0, what));
         T.bad("without couples", new LongestWed().of(0, 0), new LongestWed().of(0, 5), new LongestWed().of(-1, 0));
@@ -291,14 +285,14 @@ public final class BoundariesCouplesTest {
         T.says("or who are OLD by 100, are PARTED then (TEMPER 19 at most, OLD by 99 at most then)");
         LongestWed x = T.town("p9,p8@98~7,p7@99~7");
         T.due("keys", x.years(1), 0);
-        of("old by 98", x, 1, 0, 9, 99, 6, 0);
-        of("old by 99", x, 2, 0, 8, 99, 6, 1);
+        T.of("old by 98", x, 1, 0, 9, 99, 6, 0);
+        T.of("old by 99", x, 2, 0, 8, 99, 6, 1);
         x.years(1);
-        of("old by 99 then", x, 1, 0, 10, 99, 5, 1);
-        of("parted before", x, 2, 0, 8, 99, 6, 1);
+        T.of("old by 99 then", x, 1, 0, 10, 99, 5, 1);
+        T.of("parted before", x, 2, 0, 8, 99, 6, 1);
         LongestWed keeper = T.town("p9@99");
         T.due("the keeper", keeper.years(1), NONE);
-        of("the keeper", keeper, 0, 0, 10, 99, 1, 1);
+        T.of("the keeper", keeper, 0, 0, 10, 99, 1, 1);
     }
 
     private static void temperOfTwenty() {
@@ -323,15 +317,15 @@ public final class BoundariesCouplesTest {
         T.says("(TEMPER 19 at most, OLD by 99 at most then)");
         LongestWed x = T.town("d80@99~19");
         x.years(1);
-        of("both", x, 0, 1, 81, 99, 19, 1);
+        T.of("both", x, 0, 1, 81, 99, 19, 1);
     }
 
     private static void thoseParted() {
         T.says("all TEMPERS of those TOGETHER");
         LongestWed x = T.town("p9,d8@99~19x,s7@50~7x");
         x.years(40);
-        of("parted", x, 1, 1, 8, 99, 19, 1);
-        of("parted", x, 2, 2, 7, 50, 7, 1);
+        T.of("parted", x, 1, 1, 8, 99, 19, 1);
+        T.of("parted", x, 2, 2, 7, 50, 7, 1);
         T.says("It is the next YEAR");
         T.due("the year", x.count(1), 40);
         LongestWed none = new LongestWed();

@@ -36,12 +36,6 @@ public final class BoundariesDeedsTest {
         T.end();
     }
 
-    private static void of(String call, LongestWed x, int couple, int... want) {
-        for (int what = 0; what < want.length; what++) {
-            T.due(call + ": of(" + couple + ", " + what + ")", x.of(couple, what), want[what]);
-        }
-    }
-
     private static void yearsAreBad() {
         T.says("n YEARS (1 .. 40; each by itself may be UNDONE): who has THE KEYS then (NONE)");
         T.range("years", 1, 40, n -> T.town("p9,p8,p7").years(n));
@@ -113,7 +107,7 @@ public final class BoundariesDeedsTest {
         T.due("5 by 6", T.town("p9~5").nurse(0, 6), 0);
         LongestWed x = T.town("p9~1");
         T.due("1 by 19", x.nurse(0, 19), 0);
-        of("1 by 19", x, 0, 0, 9, 40, 0, 0);
+        T.of("1 by 19", x, 0, 0, 9, 40, 0, 0);
     }
 
     private static void nurseIsNot() {
@@ -139,7 +133,7 @@ public final class BoundariesDeedsTest {
         for (int[] one : cases) {
             LongestWed x = T.town("p9@50~" + one[0] + ",p5");
             T.due(one[0] + " by " + one[1], x.stir(0, one[1]), 19);
-            of(one[0] + " by " + one[1], x, 0, 0, 9, 50, 19, one[2]);
+            T.of(one[0] + " by " + one[1], x, 0, 0, 9, 50, 19, one[2]);
             T.due(one[0] + " by " + one[1] + ": keys", x.count(2), one[2]);
             T.due(one[0] + " by " + one[1] + ": the year", x.count(1), 0);
         }
@@ -160,7 +154,7 @@ public final class BoundariesDeedsTest {
         T.says("WED anew: a COUPLE that is PARTED is TOGETHER, WED since 0 YEARS, OLD by 20, in a TEMPER 0");
         LongestWed x = T.town("b80@99~19x,p5");
         T.due("keys", x.wed(0), 1);
-        of("wed anew", x, 0, 4, 0, 20, 0, 0);
+        T.of("wed anew", x, 0, 4, 0, 20, 0, 0);
         T.says("WED anew: who has THE KEYS then");
         T.due("nobody else", T.town("p9x").wed(0), 0);
         T.due("of like ones the first", T.town("p9x,p0").wed(0), 0);
@@ -292,15 +286,15 @@ public final class BoundariesDeedsTest {
     private static void driftPartsAheadOfTheYear() {
         T.says("STIRRED: n worse; with 20 or more they are PARTED at once (TEMPER 19 then)");
         LongestWed just = drifted("p5~5,p9~14", drawOf(2, 1, 5, 0));
-        of("19 by it, then the keeper's year", just, 1, 0, 10, 41, 19, 1);
-        of("the other had no keys", just, 0, 0, 6, 41, 4, 0);
+        T.of("19 by it, then the keeper's year", just, 1, 0, 10, 41, 19, 1);
+        T.of("the other had no keys", just, 0, 0, 6, 41, 4, 0);
         LongestWed over = drifted("p5~5,p9~14", drawOf(2, 1, 6, 0));
-        of("20 by it", over, 1, 0, 9, 40, 19, 1);
-        of("the other had the keys", over, 0, 0, 6, 41, 6, 0);
+        T.of("20 by it", over, 1, 0, 9, 40, 19, 1);
+        T.of("the other had the keys", over, 0, 0, 6, 41, 6, 0);
         LongestWed still = drifted("p9~19,p5", drawOf(2, 1, 0, 0));
-        of("by 0", still, 1, 0, 6, 41, 0, 0);
+        T.of("by 0", still, 1, 0, 6, 41, 0, 0);
         LongestWed by0 = drifted("p9,p5~19", drawOf(2, 1, 0, 127));
-        of("19 by 0", by0, 1, 0, 6, 41, 18, 0);
+        T.of("19 by 0", by0, 1, 0, 6, 41, 18, 0);
     }
 
     private static void driftWedsAnew() {
@@ -308,15 +302,15 @@ public final class BoundariesDeedsTest {
         for (int by = 0; by < 7; by++) {
             LongestWed x = drifted("p9,b70@80~15x", drawOf(2, 1, by, by % 2 * 127));
             if (by == 0) {
-                of("by 0", x, 1, 4, 1, 21, 0, 0);
+                T.of("by 0", x, 1, 4, 1, 21, 0, 0);
             } else {
-                of("by " + by, x, 1, 4, 70, 80, 15, 1);
+                T.of("by " + by, x, 1, 4, 70, 80, 15, 1);
             }
             LongestWed other = drifted("p9,b70@80~15x", drawOf(2, 0, by, 0));
-            of("the other by " + by, other, 1, 4, 70, 80, 15, 1);
+            T.of("the other by " + by, other, 1, 4, 70, 80, 15, 1);
         }
         LongestWed alone = drifted("d9x", drawOf(1, 0, 0, 0));
-        of("alone, with the keys ahead of the year", alone, 0, 1, 1, 21, 3, 0);
+        T.of("alone, with the keys ahead of the year", alone, 0, 1, 1, 21, 3, 0);
     }
 
     private static void driftMayBeUndone() {

@@ -265,5 +265,9 @@ public final class BoundariesTextsTest {
         fault("p1~1 9", 5);
         of("p1 ", 1, 1);
         of(" p1", 1, 1);
+        right("p1x ", 1);
+        right("p1,p2,p3,p4,p5,p6,p7  ", 7);
+        right("p1,p2,p3,p4,p5,p6,p7x  ", 7);
+        fault("p1,p2,p3,p4,p5,p6,p7x  q", 23);
     }
 }

@@ -35,6 +35,13 @@ final class Due {
         }
     }
 
+    /** Of a couple: what 0, 1, .. are those. */
+    void of(String call, LongestWed x, int couple, int... want) {
+        for (int what = 0; what < want.length; what++) {
+            due(call + ": of(" + couple + ", " + what + ")", x.of(couple, what), want[what]);
+        }
+    }
+
     void same(String call, String got, String want) {
         asked++;
         if (!got.equals(want)) {
