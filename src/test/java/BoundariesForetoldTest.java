@@ -149,6 +149,12 @@ public final class BoundariesForetoldTest {
         T.due("behind 60", T.town(SIXTY).ever(), 15);
         T.due("behind 61", T.town(SIXTY_ONE).ever(), 15);
         T.due("gone before", T.town("p9@20,p8@90,p7@20").ever(), 5);
+        T.says("EVER (a set)");
+        // One is parted by its age each year, the first one first, and the next one has the keys.
+        String inTurn = "p50@99,p49@98,p48@97,p47@96,p46@95,p45@94,p44@93";
+        T.due("all seven in turn", T.town(inTurn).ever(), 127);
+        T.due("all but the last, which is parted", T.town(inTurn + "x").ever(), 63);
+        T.due("the last of seven alone", T.town("p9x,p9x,p9x,p9x,p9x,p9x,p1").ever(), 64);
     }
 
     private static void rivals(String text, int couple, int n, int many, int which) {
@@ -278,6 +284,9 @@ public final class BoundariesForetoldTest {
         T.due("of two, the second alone", T.town("d9x,p8x").start(19), 1);
         T.due("each apart", T.town("p9x,p8x").start(39), NONE);
         T.due("none is parted", T.town("p9,p8").start(20), NONE);
+        T.due("none of seven is parted", T.town("p9,p8,p7,p6,p5,p4,p3").start(0), NONE);
+        T.due("all seven are parted", T.town("p9x,p9x,p9x,p9x,p9x,p9x,p9x").start(0), 0);
+        T.due("the last of seven, one wed longer", T.town("p9,p8,p7,p6,p5,p4,p3x").start(0), NONE);
         T.due("no couples", new LongestWed().start(0), NONE);
         T.bad("ahead of it", new LongestWed().start(-1), new LongestWed().start(61));
     }
